@@ -422,7 +422,7 @@ public final class DrawerRing {
         return isDownOpen ? up - DRAWERS : NO_WAY;
     }
 
-    // Rows are read and written by these alone, so that no index is used untested.
+    // No index is used untested: rows are read and written by these, but in a loop that tests it itself.
 
     private static int at(int[] row, int index) {
         return index >= 0 && index < row.length ? row[index] : 0;
@@ -751,7 +751,7 @@ public final class DrawerRing {
     private static final class History {
         private final State[] saved = new State[MOST_SAVED];
         private int oldest;
-        private int size;
+        int size;
 
         History() {
             for (int k = 0; k < saved.length; k++) {
